@@ -7,6 +7,7 @@ public final class BoundTest {
     public static void main(String[] args) {
         byHand();
         selfCallsAgainstExactNumbers();
+        justBelowTheCap();
         chains();
         unreachedFunctionsDoNotCount();
         Due.end();
@@ -61,6 +62,14 @@ public final class BoundTest {
         String ten = "caseN v0 nil " + "caseL call0 v1 nil ".repeat(9) + "call0 v1";
         bound(12, CAP, "N>L:" + ten);
         bound(11, 111111111111L, "N>L:" + ten);
+    }
+
+    /** (3^25 - 1) / 2 called twice: over half of the cap, and not cut. */
+    private static void justBelowTheCap() {
+        String three = "NN>L:caseN v0 nil caseL call0 v2 v1 nil caseL call0 v2 v1 nil call0 v2 v1";
+        bound(4, 423644304721L, three);
+        bound(4, 847288609443L, three, "N>L:caseL call0 v0 v0 nil call0 v0 v0");
+        bound(4, CAP, three, "N>L:caseL call0 v0 v0 nil caseL call0 v0 v0 nil call0 v0 v0");
     }
 
     private static long exactSum(int r, int cap, int params) {

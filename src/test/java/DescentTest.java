@@ -124,5 +124,9 @@ public final class DescentTest {
         x = Programs.one("NNN>N", "caseN v2 zero call0 v0 v1 v3");
         Programs.declare(x, "N>N", "caseN v0 zero call1 v1");
         Due.same("each by itself", x.compile(), OK);
+        x = Programs.one("N>N", "caseN v0 zero v1");
+        Programs.declare(x, "NN>N", "call1 v0 v1");
+        Due.same("a level that was smaller before", x.compile(), DESCENT);
+        Due.same("its function", x.getFaultFunction(), 1);
     }
 }

@@ -6,6 +6,7 @@ public final class RunTest {
         notReady();
         values();
         callByValue();
+        pendingValues();
         overflow();
         beginTestsInOrder();
         pauses();
@@ -108,6 +109,30 @@ public final class RunTest {
         x.compile();
         Programs.putNat(x, 0, 2);
         Due.same("in order", runStatus(x), "status 2 calls 8 depth 0 result [3 4 5]");
+    }
+
+    /** What waits for a later child stays as it was, however many activations come between. */
+    private static void pendingValues() {
+        SizedTermination x = new SizedTermination(12);
+        Programs.declare(x, "N>L", "caseN v0 nil cons v0 cons v0 call0 v1");
+        x.compile();
+        Programs.putNat(x, 0, 5);
+        Due.same("heads", runStatus(x), "status 2 calls 6 depth 0 result [5 5 4 4 3 3 2 2 1 1]");
+        x.clearProgram();
+        Programs.declare(x, "NNN>N", "v1");
+        Programs.declare(x, "N>N", "caseN v0 zero call0 v1 succ zero call1 v1");
+        x.compile();
+        Due.same("arguments", runStatus(x), "status 2 calls 11 depth 0 result 1");
+        // At the greatest depth there is.
+        x.clearProgram();
+        Programs.declare(x, "NL>L", "caseN v0 caseL v1 nil cons v2 call0 v0 v3 call0 v2 v1");
+        x.compile();
+        Programs.putNat(x, 0, 3);
+        Programs.putList(x, 1, 12, 11, 10, 9, 8, 7, 6, 5, 4, 3, 2, 1);
+        Due.same("depth 16", runStatus(x),
+            "status 2 calls 16 depth 0 result [12 11 10 9 8 7 6 5 4 3 2 1]");
+        Programs.putNat(x, 0, 4);
+        Due.same("depth 17", runStatus(x), "status 5 calls 16 depth 16 result -1");
     }
 
     private static String runStatus(SizedTermination x) {

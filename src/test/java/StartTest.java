@@ -89,7 +89,7 @@ public final class StartTest {
         Due.same("bound", x.getBound(), 7);
     }
 
-    /** f(n, m): two self-calls on n - 1, of which the check sees no descent in the second. */
+    /** Two self-calls on n - 1, in the second of which the check sees no descent. */
     private static final String TREE = "caseN v0 zero caseN call0 v1 call0 caseN v1 v1 v1 zero";
 
     private static void fuelOfOthers() {
@@ -102,7 +102,7 @@ public final class StartTest {
         Due.same("0 becomes 1", Programs.outcome(x, 0), "status 3 calls 1 depth 1 result -1");
         Due.same("less becomes 1", Programs.outcome(x, Integer.MIN_VALUE),
             "status 3 calls 1 depth 1 result -1");
-        // 2^(n + 1) - 1 over two lots of 12 passes MAX_FUEL and stays within MAX_DEPTH.
+        // Three calls at each of twelve levels: far beyond MAX_FUEL, and within MAX_DEPTH.
         x = new SizedTermination(12);
         Programs.declare(x, "NN>N", "caseN v0 caseN v1 zero call0 v1 zero"
             + " caseN call0 v2 v1 caseN call0 v2 v1 call0 v2 v1 zero zero");
