@@ -6,10 +6,14 @@ public final class BoundTest {
 
     public static void main(String[] args) {
         byHand();
+        withoutSelfCalls();
         selfCallsAgainstExactNumbers();
         justBelowTheCap();
+        onEitherSideOfTheCap();
+        whereIntsAndLongsWrap();
         chains();
         unreachedFunctionsDoNotCount();
+        noBoundWithoutOk();
         Due.end();
     }
 
@@ -72,16 +76,104 @@ public final class BoundTest {
         bound(4, CAP, three, "N>L:caseL call0 v0 v0 nil caseL call0 v0 v0 nil call0 v0 v0");
     }
 
+    /**
+     * "Bound = min(T_MAIN, BOUND_CAP)". At M = 11 ten self-calls make N = 111111111111, so nine
+     * such calls and MAIN itself are the cap, and nine times N is one less.
+     */
+    private static void onEitherSideOfTheCap() {
+        bound(11, 111111111111L, "N>N:" + tenSelfCalls(0, "zero"));
+        bound(11, CAP - 1, "N>N:v0", "N>N:" + tenSelfCalls(1, "call0 ".repeat(8) + "v0"));
+        bound(11, CAP, "N>N:" + tenSelfCalls(0, "zero"), "N>N:" + "call0 ".repeat(9) + "v0");
+        bound(11, CAP, "N>N:v0", "N>N:" + tenSelfCalls(1, "zero"),
+            "N>N:call0 " + "call1 ".repeat(9) + "v0");
+        bound(11, CAP, "N>N:v0", "N>N:" + tenSelfCalls(1, "call0 ".repeat(9) + "v0"));
+        // Cut down below MAIN, and counted on from there.
+        bound(11, CAP, "N>N:v0", "N>N:" + tenSelfCalls(1, "call0 ".repeat(8) + "v0"), "N>N:call1 v0");
+        bound(11, CAP - 1, "N>N:v0", "NNN>N:caseN v0 zero call1 v3 v1 call1 v3 v1 v2",
+            "N>N:" + tenSelfCalls(2, "call0 ".repeat(8) + "v0"));
+    }
+
+    /** Five CASEs have eleven ends: ten self-calls and one of the caller's own. */
+    private static String tenSelfCalls(int f, String last) {
+        String call = "call" + f + " v1 ";
+        return "caseN v0 zero " + ("caseN " + call + call).repeat(5) + last;
+    }
+
+    /** "no intermediate value wraps around, however large T_f becomes" */
+    private static void whereIntsAndLongsWrap() {
+        // r self-calls at two and three parameters, called c times by MAIN: T = 1 + c * N.
+        for (int cap = 1; cap <= 12; cap++) {
+            for (int r = 1; r <= 16; r++) {
+                for (int c = 0; c <= 4; c++) {
+                    String two = "NN>N:caseN v0 zero " + "call0 v2 ".repeat(r) + "v1";
+                    bound(cap, onceMore(exact(r, cap, 2), c), two, "N>N:" + "call0 v0 ".repeat(c) + "v0");
+                }
+                String three = "NNN>N:caseN v0 zero " + "call0 v3 v1 ".repeat(r) + "v2";
+                bound(cap, onceMore(exact(r, cap, 3), 1), three, "N>N:call0 v0 v0 v0");
+            }
+        }
+        // 2^36 - 1, 2^36 and 2^36 + 1: more than an int, and nothing in its low half.
+        String two = "NN>N:caseN v0 zero call0 v2 call0 v2 v1";
+        bound(5, (1L << 36) - 1, two);
+        bound(5, 1L << 36, two, "N>N:call0 v0 v0");
+        bound(5, (1L << 36) + 1, two, "N>N:call0 v0 v0", "N>N:call1 v0");
+        // 2^64 - 1 and 2^64: they would be -1 and 0 in a long.
+        bound(7, CAP, two);
+        bound(7, CAP, two, "N>N:call0 v0 v0");
+        bound(3, CAP, "NNN>N:caseN v0 zero call0 v3 v1 call0 v3 v1 v2");
+    }
+
+    private static long onceMore(BigInteger called, int times) {
+        return cut(called.multiply(BigInteger.valueOf(times)).add(BigInteger.ONE));
+    }
+
+    private static long cut(BigInteger exact) {
+        return exact.min(BigInteger.valueOf(CAP)).longValueExact();
+    }
+
+    /** "r^0 = 1, so N_f = 1 when r_f = 0"; "The bound is always at least 1." */
+    private static void withoutSelfCalls() {
+        for (int cap = 1; cap <= 12; cap++) {
+            for (int params = 1; params <= 3; params++) {
+                String signature = "NNN".substring(0, params) + ">N:";
+                bound(cap, 1, signature + "v0");
+                bound(cap, 1, "N>N:v0", signature + "zero");
+                bound(cap, 2, "N>N:v0", signature + "call0 zero");
+                bound(cap, 12, "N>N:v0", signature + "call0 ".repeat(11) + "zero");
+            }
+        }
+    }
+
+    /** "(BOUND below if CODE_OK, else 0)" */
+    private static void noBoundWithoutOk() {
+        String[] bodies = {"", "succ", "v1", "call1", "nil", Programs.LOOP};
+        for (String body : bodies) {
+            SizedTermination x = Programs.one("N>N", "v0");
+            x.compile();
+            Due.same("bound of v0", x.getBound(), 1);
+            x = Programs.one("N>N", body);
+            x.compile();
+            Due.same("bound of '" + body + "'", x.getBound(), 0);
+            x.clearProgram();
+            Due.same("compile", x.compile(), SizedTermination.CODE_EMPTY);
+            Due.same("bound of nothing", x.getBound(), 0);
+        }
+    }
+
     private static long exactSum(int r, int cap, int params) {
+        return cut(exact(r, cap, params));
+    }
+
+    private static BigInteger exact(int r, int cap, int params) {
         int terms = 1;
         for (int i = 0; i < params; i++) {
             terms *= cap + 1;
         }
         BigInteger sum = BigInteger.ZERO;
         for (int i = 0; i < terms; i++) {
-            sum = sum.add(BigInteger.valueOf(r).pow(i));
+            sum = sum.multiply(BigInteger.valueOf(r)).add(BigInteger.ONE);
         }
-        return sum.min(BigInteger.valueOf(CAP)).longValueExact();
+        return sum;
     }
 
     private static void chains() {

@@ -1,10 +1,30 @@
-/** Promise 2. */
+/** Promise 2; EveryStateTest clears in every state. */
 public final class ClearProgramTest {
     public static void main(String[] args) {
-        SizedTermination x = new SizedTermination(5);
-        x.clearProgram();
-        Due.same("clear of nothing", Programs.all(x), Programs.RESET);
+        nothingToClear();
+        fullAndRunning();
+        Due.end();
+    }
 
+    /** "clearProgram() always works." */
+    private static void nothingToClear() {
+        SizedTermination x = new SizedTermination(5);
+        for (int i = 0; i < 3; i++) {
+            x.clearProgram();
+            Due.same("clear of nothing", Programs.all(x), Programs.RESET);
+        }
+        x.compile();
+        x.clearProgram();
+        Due.same("code gone as well", Programs.all(x), Programs.RESET);
+        Due.same("first function", x.function(1, 0, 0), 0);
+        x.clearProgram();
+        Due.same("first function anew", x.function(1, 0, 0), 0);
+        Due.same("its body is empty", x.compile(), SizedTermination.CODE_SYNTAX);
+    }
+
+    /** "It removes all functions and nodes (F becomes 0), then RESETs. Inputs and M do not change." */
+    private static void fullAndRunning() {
+        SizedTermination x = new SizedTermination(5);
         Programs.putNat(x, 0, 4);
         Programs.putList(x, 1, 3, 1, 5);
         Programs.putNat(x, 2, 2);
@@ -35,7 +55,7 @@ public final class ClearProgramTest {
         Due.same("slot 0", Programs.slot(x, "NLN", 0), "4");
         Due.same("slot 1", Programs.slot(x, "NLN", 1), "[3 1 5]");
         Due.same("slot 2", Programs.slot(x, "NLN", 2), "2");
-        Due.end();
+        Due.same("M", Probe.cap(x), 5);
     }
 
     /** All functions and all nodes: only a true clearing makes room for them again. */

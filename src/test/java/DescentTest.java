@@ -6,6 +6,7 @@ public final class DescentTest {
     public static void main(String[] args) {
         oneParameter();
         facts();
+        upAndDown();
         lexicographic();
         everySelfCall();
         onlySelfCalls();
@@ -73,6 +74,35 @@ public final class DescentTest {
         descent("NN>N", "caseN v0 zero caseN v1 zero call0 v3 v2", DESCENT);
     }
 
+    /** "k may be zero or negative": so many times up and so many down, on either side of even. */
+    private static void upAndDown() {
+        for (int up = 0; up <= 10; up++) {
+            for (int down = 0; down <= 10; down++) {
+                int want = down - up >= 1 ? OK : DESCENT;
+                descent("N>N", down("caseN", 0, down, 1) + "call0" + " succ".repeat(up) + " v" + down, want);
+                descent("L>N", down("caseL", 0, down, 2) + "call0" + " cons zero".repeat(up) + " v" + 2 * down,
+                    want);
+                // The rise may as well stand in the child0 of a CASE, which goes one down again.
+                String rise = "caseN" + " succ".repeat(up) + " v0 zero ";
+                descent("N>N", rise + down("caseN", 1, down, 1) + "call0 v" + (down + 1),
+                    down + 1 - up >= 1 ? OK : DESCENT);
+            }
+        }
+        // Equal is enough before the one that goes down; one more is too much.
+        descent("NN>N", "caseN v0 zero caseN v1 zero call0 succ v2 v3", OK);
+        descent("NN>N", "caseN v0 zero caseN v1 zero call0 succ succ v2 v3", DESCENT);
+    }
+
+    /** Matches a level, then what is left of it, and so on, so many times. */
+    private static String down(String kind, int from, int times, int opened) {
+        StringBuilder body = new StringBuilder();
+        for (int i = 0; i < times; i++) {
+            body.append(kind).append(" v").append(from + opened * i).append(" zero ");
+        }
+        return body.toString();
+    }
+
+    /** "some i has: a_i has (i,k) with k >= 1, and each a_t, t < i, has (t,k') with k' >= 0" */
     private static void lexicographic() {
         descent("NN>N", "caseN v1 zero call0 v0 v2", OK);
         descent("NN>N", "caseN v1 zero call0 v2 v0", DESCENT);

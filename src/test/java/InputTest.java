@@ -1,4 +1,4 @@
-/** Promise 7. */
+/** Promise 7; RefusalTest and EveryStateTest set inputs in every state. */
 public final class InputTest {
     private static final int IN_NAT = SizedTermination.IN_NAT;
     private static final int IN_NIL = SizedTermination.IN_NIL;
@@ -10,11 +10,14 @@ public final class InputTest {
             naturals(m);
             lists(m);
         }
+        nilTakesAnyValue();
+        emptyListIsNotZero();
         slotsAreApart();
         runKeepsItsArguments();
         Due.end();
     }
 
+    /** "slot is not in 0..2; or op is not in 0..2; .. value is not in 0..M" */
     private static void refusals() {
         SizedTermination x = new SizedTermination(6);
         Programs.putNat(x, 0, 5);
@@ -42,6 +45,7 @@ public final class InputTest {
         Due.same("slot 2", Programs.slot(x, "NLN", 2), "0");
     }
 
+    /** "for IN_NAT, value is not in 0..M" */
     private static void naturals(int m) {
         SizedTermination x = new SizedTermination(m);
         for (int slot = 0; slot < 3; slot++) {
@@ -50,10 +54,12 @@ public final class InputTest {
                 Due.same("natural", Programs.slot(x, "NNN", slot), "" + value);
             }
             Due.same("over M", x.input(slot, IN_NAT, m + 1), false);
+            Due.same("under 0", x.input(slot, IN_NAT, -1), false);
             Due.same("unchanged", Programs.slot(x, "NNN", slot), "" + m);
         }
     }
 
+    /** "for IN_CONS, the slot does not hold a list, or its length is M, or value is not in 0..M" */
     private static void lists(int m) {
         SizedTermination x = new SizedTermination(m);
         for (int slot = 0; slot < 3; slot++) {
@@ -62,6 +68,8 @@ public final class InputTest {
             StringBuilder want = new StringBuilder();
             for (int n = 0; n < m; n++) {
                 int value = (n * 5 + slot + m) % (m + 1);
+                Due.same("element over M", x.input(slot, IN_CONS, m + 1), false);
+                Due.same("element under 0", x.input(slot, IN_CONS, -1), false);
                 Due.same("cons", x.input(slot, IN_CONS, value), true);
                 want.insert(0, n == 0 ? "" + value : value + " ");
                 Due.same("grown", Programs.slot(x, "LLL", slot), "[" + want + "]");
@@ -74,6 +82,39 @@ public final class InputTest {
         Programs.putNat(x, 1, m);
         Due.same("natural over a list", Programs.slot(x, "LNL", 1), "" + m);
         Due.same("no list now", x.input(1, IN_CONS, 0), false);
+    }
+
+    /** "IN_NIL: the slot := the empty list (value ignored, any int accepted)" */
+    private static void nilTakesAnyValue() {
+        int[] values = {Integer.MIN_VALUE, -1, 0, 1, 6, 7, 13, 256, Integer.MAX_VALUE};
+        for (int value : values) {
+            for (int slot = 0; slot < 3; slot++) {
+                SizedTermination x = new SizedTermination(6);
+                Due.same("nil over a natural", x.input(slot, IN_NIL, value), true);
+                Due.same("empty", slotOf(x, slot), "[]");
+                Due.same("cons", x.input(slot, IN_CONS, 6), true);
+                Due.same("nil over a list", x.input(slot, IN_NIL, value), true);
+                Due.same("empty again", slotOf(x, slot), "[]");
+            }
+        }
+    }
+
+    private static String slotOf(SizedTermination x, int slot) {
+        String types = "NNN".substring(0, slot) + "L";
+        return Programs.slot(x, types, slot);
+    }
+
+    /** A natural 0 takes no element, and an empty list does, also where the one followed the other. */
+    private static void emptyListIsNotZero() {
+        SizedTermination x = new SizedTermination(6);
+        for (int i = 0; i < 3; i++) {
+            Due.same("cons on 0", x.input(1, IN_CONS, 0), false);
+            Due.same("nil", x.input(1, IN_NIL, 0), true);
+            Due.same("cons on empty", x.input(1, IN_CONS, 0), true);
+            Due.same("one zero", slotOf(x, 1), "[0]");
+            Due.same("natural", x.input(1, IN_NAT, 0), true);
+        }
+        Due.same("0 at last", Programs.slot(x, "NN", 1), "0");
     }
 
     private static void slotsAreApart() {

@@ -4,11 +4,9 @@ public final class ModelTest {
     private static long seed = 20261115L;
     private static final int[] codesSeen = new int[8];
     private static final int[] endsSeen = new int[6];
-    private static int oddEnds = 0;
 
     private static int cap;
-    private static SizedTermination x;
-    private static Model model;
+    private static Pair pair;
     /** The parameter and result types of the functions of the program being written. */
     private static final int[] counts = new int[6];
     private static final int[] masks = new int[6];
@@ -23,8 +21,7 @@ public final class ModelTest {
         for (int i = 0; i < PROGRAMS && Due.wrong() < 20; i++) {
             if (i % 8 == 0) {
                 cap = below(16) - 1;
-                x = new SizedTermination(cap);
-                model = new Model(cap);
+                pair = new Pair(cap);
             }
             writeProgram();
             useProgram();
@@ -35,7 +32,6 @@ public final class ModelTest {
         for (int status = 2; status <= 5; status++) {
             Due.same("status " + status + " seen often", endsSeen[status] > 100, true);
         }
-        Due.same("ends against the bound", oddEnds, 0);
         Due.end();
     }
 
@@ -52,8 +48,7 @@ public final class ModelTest {
     // ---- writing a program: well formed for the most part ----
 
     private static void writeProgram() {
-        x.clearProgram();
-        model.clearProgram();
+        pair.clearProgram();
         functions = 0;
         room = 64;
         int wanted = chance(2) ? 0 : 1 + below(chance(10) ? 7 : 3);
@@ -61,8 +56,7 @@ public final class ModelTest {
             int count = chance(1) ? below(6) - 1 : 1 + below(3);
             int mask = chance(5) ? below(1 << 30) * 4 : below(8);
             int result = chance(1) ? below(5) - 2 : below(2);
-            int index = x.function(count, mask, result);
-            Due.same("function", index, model.function(count, mask, result));
+            int index = pair.function(count, mask, result);
             if (index >= 0) {
                 counts[index] = count;
                 masks[index] = mask;
@@ -74,7 +68,7 @@ public final class ModelTest {
                 append(below(10) - 1, below(8) - 1);
             }
         }
-        look();
+        pair.look();
     }
 
     /** Most bodies match a parameter at once: so self-calls can descend, and most will. */
@@ -104,7 +98,7 @@ public final class ModelTest {
 
     private static void append(int kind, int arg) {
         room--;
-        Due.same("node", x.node(kind, arg), model.node(kind, arg));
+        pair.node(kind, arg);
     }
 
     /** types holds one letter a level; small-looking variables are liked for self-calls. */
@@ -194,19 +188,18 @@ public final class ModelTest {
         if (chance(3)) {
             tryStart();
         }
-        Due.same("compile", x.compile(), model.compile());
-        codesSeen[x.getCode()]++;
-        look();
+        pair.compile();
+        codesSeen[pair.x.getCode()]++;
+        pair.look();
         for (int go = 0; go < 4; go++) {
             fillInputs();
             tryStart();
-            for (int i = 0; i < 60 && x.getStatus() == SizedTermination.ST_READY; i++) {
+            for (int i = 0; i < 60 && pair.x.getStatus() == SizedTermination.ST_READY; i++) {
                 int k = chance(50) ? 1 + below(4) : below(400) - 100;
-                if (model.leavesTheRecord(k)) {
+                if (!pair.run(k)) {
                     break;
                 }
-                Due.same("run(" + k + ")", x.run(k), model.run(k));
-                look();
+                pair.look();
                 if (chance(4)) {
                     fillInputs();
                 }
@@ -214,7 +207,7 @@ public final class ModelTest {
                     tryStart();
                 }
             }
-            countEnd();
+            endsSeen[pair.x.getStatus()]++;
         }
     }
 
@@ -222,49 +215,17 @@ public final class ModelTest {
         for (int slot = -1; slot < 4; slot++) {
             boolean list = functions > 0 && slot >= 0 && (masks[functions - 1] >> slot & 1) == 1;
             int op = chance(1) ? below(5) - 1 : list ? 1 : 0;
-            input(slot, op, chance(95) ? below(Math.max(cap, 1)) : below(15) - 1);
+            pair.input(slot, op, chance(95) ? below(Math.max(cap, 1)) : below(15) - 1);
             int elements = op == 1 ? below(14) : 0;
             for (int i = 0; i < elements; i++) {
-                input(slot, 2, below(13));
+                pair.input(slot, 2, below(13));
             }
         }
-        look();
-    }
-
-    private static void input(int slot, int op, int value) {
-        Due.same("input(" + slot + ", " + op + ", " + value + ")", x.input(slot, op, value),
-            model.input(slot, op, value));
+        pair.look();
     }
 
     private static void tryStart() {
-        int fuel = chance(30) ? below(30) - 3 : below(200000);
-        Due.same("start", x.start(fuel), model.start(fuel));
-        look();
-    }
-
-    private static void countEnd() {
-        endsSeen[x.getStatus()]++;
-        boolean accepted = x.getCode() == SizedTermination.CODE_OK;
-        boolean exact = x.getBound() < SizedTermination.BOUND_CAP;
-        if (accepted && exact && x.getStatus() == SizedTermination.ST_OUT_OF_FUEL) {
-            oddEnds++;
-        }
-        if (accepted && (x.getBound() < 1 || x.getCalls() > x.getBound())) {
-            oddEnds++;
-        }
-    }
-
-    private static void look() {
-        Due.same("getCode", x.getCode(), model.code);
-        Due.same("getFaultFunction", x.getFaultFunction(), model.fault);
-        Due.same("getBound", x.getBound(), model.bound);
-        Due.same("getStatus", x.getStatus(), model.status);
-        Due.same("getCalls", x.getCalls(), model.calls);
-        Due.same("getDepth", x.getDepth(), model.depth);
-        Due.same("resultNat", x.resultNat(), model.resultNat());
-        Due.same("resultLength", x.resultLength(), model.resultLength());
-        for (int i = -1; i <= 12; i++) {
-            Due.same("resultElem", x.resultElem(i), model.resultElem(i));
-        }
+        pair.start(chance(30) ? below(30) - 3 : below(200000));
+        pair.look();
     }
 }

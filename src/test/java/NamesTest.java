@@ -20,6 +20,7 @@ public final class NamesTest {
         Due.same("bound of '" + body + "'", x.getBound() == 0, want != OK);
     }
 
+    /** "K_VAR with x outside 0..s-1 gives CODE_SCOPE" */
     private static void scopes() {
         names("N>N", "v0", OK);
         names("N>N", "v1", SCOPE);
@@ -55,9 +56,15 @@ public final class NamesTest {
         names("NNN>N", "caseN v0 v1 call0 v3 v1 v2", OK);
     }
 
+    /** "K_CALL with g outside 0..f, f being its own function, gives CODE_CALL" */
     private static void targets() {
         names("N>N", "call-1", CALL);
         names("N>N", "call1", CALL);
+        for (int f = 0; f < 6; f++) {
+            for (int g = -1; g <= 6; g++) {
+                target(f, g);
+            }
+        }
         for (int g = 0; g < 4; g++) {
             SizedTermination x = new SizedTermination(6);
             Programs.declare(x, "N>N", "v0");
@@ -69,6 +76,19 @@ public final class NamesTest {
         }
     }
 
+    /** A call of g in function f of six. */
+    private static void target(int f, int g) {
+        SizedTermination x = new SizedTermination(6);
+        String call = g >= 0 && g < 6 ? "call" + g + " v1" : "call" + g;
+        for (int i = 0; i < 6; i++) {
+            Programs.declare(x, "N>N", i == f ? "caseN v0 zero " + call : "v0");
+        }
+        boolean good = g >= 0 && g <= f;
+        Due.same("call of " + g + " in " + f, x.compile(), good ? OK : CALL);
+        Due.same("its function", x.getFaultFunction(), good ? -1 : f);
+    }
+
+    /** "The first node in prefix order" */
     private static void firstInPrefixOrder() {
         names("N>L", "cons v9 call9", SCOPE);
         names("N>L", "cons call9 v9", CALL);
@@ -83,6 +103,7 @@ public final class NamesTest {
         Due.same("its index", x.getFaultFunction(), 1);
     }
 
+    /** "four phases run in order; each phase looks at functions 0..F-1 in order" */
     private static void phaseOrder() {
         // Each phase looks at all functions before the next phase looks at any.
         String[] bodies = {Programs.LOOP, "nil", "v9", "succ"};

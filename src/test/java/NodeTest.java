@@ -1,13 +1,18 @@
-/** Promise 4. */
+/** Promise 4; RefusalTest tries the refusals in every state. */
 public final class NodeTest {
     public static void main(String[] args) {
         refusals();
+        everyKind();
+        refusedIsNotAppended();
+        limitInOneBody();
         limitOverTheWholeProgram();
+        limitOverSixBodies();
         anyArgIsKept();
         resets();
         Due.end();
     }
 
+    /** "refused .. if no function exists, .. or kind is not in 0..7" */
     private static void refusals() {
         SizedTermination x = new SizedTermination(6);
         for (int kind = -1; kind <= 8; kind++) {
@@ -28,6 +33,65 @@ public final class NodeTest {
         Due.same("unchanged", Programs.all(x), before);
         Due.same("goes on", x.run(9), SizedTermination.ST_DONE);
         Due.same("half of 4", x.resultNat(), 2);
+    }
+
+    /** "kind is not in 0..7" */
+    private static void everyKind() {
+        for (int kind = -3; kind <= 11; kind++) {
+            SizedTermination x = new SizedTermination(6);
+            x.function(1, 0, 0);
+            Due.same("kind " + kind, x.node(kind, 0), kind >= 0 && kind <= 7);
+        }
+    }
+
+    /** "refused, answering false with nothing changed": the body goes on where it stood. */
+    private static void refusedIsNotAppended() {
+        SizedTermination x = new SizedTermination(6);
+        x.function(1, 0, 0);
+        Programs.append(x, "caseN v0");
+        Due.same("refused", x.node(8, 0), false);
+        Programs.append(x, "zero");
+        Due.same("refused", x.node(-1, 0), false);
+        Programs.append(x, "v1");
+        Due.same("refused", x.node(Integer.MAX_VALUE, 0), false);
+        Due.same("compile", x.compile(), SizedTermination.CODE_OK);
+        Programs.putNat(x, 0, 5);
+        Due.same("runs", Programs.outcome(x, 1), "status 2 calls 1 depth 0 result 4");
+    }
+
+    /** "MAX_NODES nodes exist in the whole program" */
+    private static void limitInOneBody() {
+        SizedTermination x = new SizedTermination(12);
+        x.function(1, 0, 0);
+        for (int n = 1; n < SizedTermination.MAX_NODES; n++) {
+            Due.same("node " + n, x.node(SizedTermination.K_SUCC, 0), true);
+        }
+        Due.same("one child is missing", x.compile(), SizedTermination.CODE_SYNTAX);
+        Due.same("node 64", x.node(SizedTermination.K_ZERO, 0), true);
+        Due.same("64 nodes", x.compile(), SizedTermination.CODE_OK);
+        Due.same("node 65", x.node(SizedTermination.K_ZERO, 0), false);
+        Due.same("64 nodes still", x.compile(), SizedTermination.CODE_OK);
+        Due.same("run", Programs.outcome(x, 1), "status 4 calls 1 depth 1 result -1");
+    }
+
+    private static void limitOverSixBodies() {
+        SizedTermination x = new SizedTermination(12);
+        int[] sizes = {10, 11, 11, 11, 11, 10};
+        for (int f = 0; f < 6; f++) {
+            x.function(1, 0, 0);
+            for (int n = 1; n < sizes[f]; n++) {
+                Due.same("node", x.node(SizedTermination.K_SUCC, 0), true);
+            }
+            Due.same("node", x.node(SizedTermination.K_VAR, 0), true);
+        }
+        Due.same("64 nodes", x.compile(), SizedTermination.CODE_OK);
+        Due.same("node 65", x.node(SizedTermination.K_ZERO, 0), false);
+        Due.same("accepted still", x.getCode(), SizedTermination.CODE_OK);
+        Programs.putNat(x, 0, 3);
+        Due.same("the last body", Programs.outcome(x, 1), "status 2 calls 1 depth 0 result 12");
+        x.clearProgram();
+        x.function(1, 0, 0);
+        Due.same("room again", x.node(SizedTermination.K_ZERO, 0), true);
     }
 
     private static void limitOverTheWholeProgram() {
@@ -51,8 +115,10 @@ public final class NodeTest {
         Due.same("fault", x.getFaultFunction(), 2);
     }
 
+    /** "Any arg is kept as given, whether or not it is meaningful" */
     private static void anyArgIsKept() {
-        int[] args = {Integer.MIN_VALUE, -1, 1, 64, Integer.MAX_VALUE};
+        int[] args = {Integer.MIN_VALUE, Integer.MIN_VALUE + 1, -256, -1, 1, 64, 256, 65536, 1 << 30,
+            Integer.MAX_VALUE};
         for (int arg : args) {
             SizedTermination x = Programs.one("N>N", "");
             Due.same("var " + arg, x.node(SizedTermination.K_VAR, arg), true);

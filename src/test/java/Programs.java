@@ -18,15 +18,22 @@ final class Programs {
      * "NL>N", and appends its body: v3 is the variable of level 3, call2 a call of function 2.
      */
     static int declare(SizedTermination x, String signature, String body) {
-        int arrow = signature.indexOf('>');
-        int mask = 0;
-        for (int i = 0; i < arrow; i++) {
-            mask |= signature.charAt(i) == 'L' ? 1 << i : 0;
-        }
-        int index = x.function(arrow, mask, signature.charAt(arrow + 1) == 'L' ? LIST : NAT);
+        int index = x.function(signature.indexOf('>'), maskOf(signature), resultOf(signature));
         Due.same("function " + signature + " accepted", index >= 0, true);
         append(x, body);
         return index;
+    }
+
+    static int maskOf(String signature) {
+        int mask = 0;
+        for (int i = 0; i < signature.indexOf('>'); i++) {
+            mask |= signature.charAt(i) == 'L' ? 1 << i : 0;
+        }
+        return mask;
+    }
+
+    static int resultOf(String signature) {
+        return signature.endsWith("L") ? LIST : NAT;
     }
 
     static void append(SizedTermination x, String body) {
@@ -37,7 +44,7 @@ final class Programs {
         }
     }
 
-    private static int kindOf(String word) {
+    static int kindOf(String word) {
         if (word.startsWith("call")) {
             return SizedTermination.K_CALL;
         }
@@ -52,7 +59,7 @@ final class Programs {
         }
     }
 
-    private static int argOf(String word) {
+    static int argOf(String word) {
         if (word.startsWith("call")) {
             return Integer.parseInt(word.substring(4));
         }
@@ -107,7 +114,7 @@ final class Programs {
     /** Starts and runs to the end, and answers the machine and the result. */
     static String outcome(SizedTermination x, int fuel) {
         Due.same("start", x.start(fuel), true);
-        for (int i = 0; i < 1000 && x.getStatus() == SizedTermination.ST_READY; i++) {
+        for (int i = 0; i < 5000 && x.getStatus() == SizedTermination.ST_READY; i++) {
             x.run(SizedTermination.MAX_RUN);
         }
         return machine(x) + " result " + result(x);

@@ -3,6 +3,7 @@ public final class ResultTest {
     public static void main(String[] args) {
         natural();
         list();
+        everyLengthAndCap();
         noneBeforeTheEnd();
         noneAfterABadEnd();
         Due.end();
@@ -23,6 +24,7 @@ public final class ResultTest {
         }
     }
 
+    /** "with status ST_DONE and a natural result, the result; otherwise -1" */
     private static void natural() {
         SizedTermination x = new SizedTermination(12);
         Programs.declare(x, "N>N", "v0");
@@ -34,6 +36,7 @@ public final class ResultTest {
         }
     }
 
+    /** "a list result and 0 <= i < length, element i (0 is the front); otherwise -1" */
     private static void list() {
         SizedTermination x = new SizedTermination(12);
         Programs.declare(x, "L>L", "v0");
@@ -60,6 +63,31 @@ public final class ResultTest {
         expect(x, 7, null);
     }
 
+    /** From the empty list to the full one, by inputs and by the run itself. */
+    private static void everyLengthAndCap() {
+        for (int m = 1; m <= 12; m++) {
+            for (int length = 0; length <= m; length++) {
+                int[] list = new int[length];
+                for (int i = 0; i < length; i++) {
+                    list[i] = (m + i) % (m + 1);
+                }
+                SizedTermination x = new SizedTermination(m);
+                Programs.declare(x, "LL>L", Programs.APPEND);
+                x.compile();
+                Programs.putList(x, 0, list);
+                Programs.putList(x, 1);
+                Programs.outcome(x, 0);
+                expect(x, -1, list);
+                x.clearProgram();
+                Programs.declare(x, "L>L", "v0");
+                x.compile();
+                Programs.outcome(x, 0);
+                expect(x, -1, list);
+            }
+        }
+    }
+
+    /** "otherwise -1": with no run, before its start, at a pause, after compile and after an edit. */
     private static void noneBeforeTheEnd() {
         SizedTermination x = new SizedTermination(6);
         expect(x, -1, null);
@@ -87,6 +115,28 @@ public final class ResultTest {
         expect(x, -1, null);
         Programs.outcome(x, 0);
         x.node(SizedTermination.K_NIL, 0);
+        expect(x, -1, null);
+        noneOfTheOldRun();
+    }
+
+    /** A result that was there before is none while the next run is under way. */
+    private static void noneOfTheOldRun() {
+        SizedTermination x = Programs.one("N>N", Programs.HALF);
+        x.compile();
+        Programs.putNat(x, 0, 6);
+        Programs.outcome(x, 0);
+        expect(x, 3, null);
+        x.start(0);
+        for (int i = 0; i < 4; i++) {
+            expect(x, -1, null);
+            x.run(1);
+        }
+        expect(x, 3, null);
+        Due.same("refused", x.function(4, 0, 0), -1);
+        expect(x, 3, null);
+        Due.same("function", x.function(1, 0, 0), 1);
+        expect(x, -1, null);
+        x.clearProgram();
         expect(x, -1, null);
     }
 

@@ -1,4 +1,4 @@
-/** Promise 9. */
+/** Promise 9; RefusalTest and EveryStateTest run in every state. */
 public final class RunTest {
     private static final int READY = SizedTermination.ST_READY;
 
@@ -8,10 +8,15 @@ public final class RunTest {
         callByValue();
         pendingValues();
         overflow();
+        overflowInOrder();
         beginTestsInOrder();
+        beginTestsTogether();
+        depthToItsLimit();
         pauses();
+        pauseKeepsTheArguments();
         clampOfK();
         everySplittingGivesTheSame();
+        boundReached();
         Due.end();
     }
 
@@ -30,6 +35,7 @@ public final class RunTest {
         Due.same(signature + " '" + body + "' of " + nat, Programs.outcome(x, 50), want);
     }
 
+    /** "if the status is not ST_READY, it answers the status and nothing changes" */
     private static void notReady() {
         SizedTermination x = new SizedTermination(6);
         Due.same("run of nothing", x.run(1), SizedTermination.ST_IDLE);
@@ -139,6 +145,7 @@ public final class RunTest {
         return Programs.outcome(x, 1000);
     }
 
+    /** "SUCC: .. if it is M, the run ends with ST_OVERFLOW"; "CONS: .. if the tail's length is M" */
     private static void overflow() {
         for (int m = 1; m <= 12; m++) {
             run("status 2 calls 1 depth 0 result " + m, m, m - 1, null, "N>N", "succ v0");
@@ -173,6 +180,47 @@ public final class RunTest {
         Due.same("kept still", Programs.machine(x), "status 4 calls 2 depth 2");
     }
 
+    /** What stands before the overflowing node is evaluated first, what stands behind it never. */
+    private static void overflowInOrder() {
+        SizedTermination x = new SizedTermination(6);
+        Programs.declare(x, "N>N", "v0");
+        Programs.declare(x, "L>L", "v0");
+        Programs.declare(x, "NNN>N", "v0");
+        Programs.declare(x, "N>L", "cons succ v0 call1 nil");
+        Programs.putNat(x, 0, 6);
+        mainIs(x, "status 4 calls 1 depth 1 result -1");
+        Programs.declare(x, "N>L", "cons call0 v0 cons succ v0 call1 nil");
+        mainIs(x, "status 4 calls 2 depth 1 result -1");
+        x.clearProgram();
+        Programs.declare(x, "N>N", "v0");
+        Programs.declare(x, "NNN>N", "v0");
+        Programs.declare(x, "N>N", "call1 call0 v0 succ v0 call0 v0");
+        mainIs(x, "status 4 calls 2 depth 1 result -1");
+        Programs.declare(x, "N>N", "call1 call0 v0 call0 v0 succ v0");
+        mainIs(x, "status 4 calls 3 depth 1 result -1");
+        Programs.declare(x, "N>N", "caseN succ call0 v0 call0 v0 call0 v0");
+        mainIs(x, "status 4 calls 2 depth 1 result -1");
+        // Not taken, not evaluated: neither branch that is not chosen can overflow.
+        x.clearProgram();
+        Programs.declare(x, "N>N", "caseN v0 zero succ succ v1");
+        mainIs(x, "status 4 calls 1 depth 1 result -1");
+        Programs.putNat(x, 0, 0);
+        mainIs(x, "status 2 calls 1 depth 0 result 0");
+        x.clearProgram();
+        Programs.declare(x, "LN>N", "caseL v0 succ v1 v2");
+        Programs.putList(x, 0);
+        Programs.putNat(x, 1, 6);
+        mainIs(x, "status 4 calls 1 depth 1 result -1");
+        Programs.putList(x, 0, 3);
+        mainIs(x, "status 2 calls 1 depth 0 result 3");
+    }
+
+    private static void mainIs(SizedTermination x, String want) {
+        Due.same("compile", x.compile(), SizedTermination.CODE_OK);
+        Due.same("outcome", runStatus(x), want);
+    }
+
+    /** "A BEGIN applies these tests in order, whatever the code (CODE_OK included)" */
     private static void beginTestsInOrder() {
         SizedTermination x = Programs.one("N>N", Programs.LOOP);
         x.compile();
@@ -207,6 +255,118 @@ public final class RunTest {
         Due.same("depth 17 is not", runStatus(x), "status 5 calls 16 depth 16 result -1");
     }
 
+    /** Every two of the three tests true at once, and all three. */
+    private static void beginTestsTogether() {
+        SizedTermination x = Programs.one("N>N", Programs.LOOP);
+        x.compile();
+        for (int fuel = 1; fuel <= 20; fuel++) {
+            for (int k = 1; k <= 20; k++) {
+                Due.same("start", x.start(fuel), true);
+                int most = Math.min(fuel, 16);
+                int status = fuel <= 16 ? SizedTermination.ST_OUT_OF_FUEL : SizedTermination.ST_TOO_DEEP;
+                Due.same("fuel " + fuel + " run(" + k + ")", x.run(k), k < most ? READY : status);
+                int begun = Math.min(k, most);
+                Due.same("begun", Programs.machine(x),
+                    "status " + x.getStatus() + " calls " + begun + " depth " + begun);
+                for (int i = 0; i < 20; i++) {
+                    x.run(k);
+                }
+                Due.same("end", Programs.machine(x), "status " + status + " calls " + most + " depth " + most);
+            }
+        }
+    }
+
+    /** "(2) depth == MAX_DEPTH": sixteen at once is the most, and it is the depth that counts. */
+    private static void depthToItsLimit() {
+        SizedTermination x = new SizedTermination(12);
+        Programs.declare(x, "N>N", "caseN v0 zero succ call0 v1");
+        Programs.declare(x, "N>N", "call0 v0");
+        Programs.declare(x, "N>N", "call1 v0");
+        Programs.declare(x, "N>N", "call2 v0");
+        Programs.putNat(x, 0, 12);
+        Due.same("compile", x.compile(), SizedTermination.CODE_OK);
+        Due.same("13 and 3", runStatus(x), "status 2 calls 16 depth 0 result 12");
+        Programs.declare(x, "N>N", "call3 v0");
+        Due.same("compile", x.compile(), SizedTermination.CODE_OK);
+        Due.same("13 and 4", runStatus(x), "status 5 calls 16 depth 16 result -1");
+        Programs.putNat(x, 0, 11);
+        Due.same("12 and 4", runStatus(x), "status 2 calls 16 depth 0 result 11");
+        // The full depth again and again in one run.
+        x.clearProgram();
+        Programs.declare(x, "N>N", "caseN v0 zero succ call0 v1");
+        Programs.declare(x, "N>N", "call0 v0");
+        Programs.declare(x, "N>N", "call1 v0");
+        Programs.declare(x, "N>N", "call2 call2 call2 v0");
+        Programs.putNat(x, 0, 12);
+        Due.same("compile", x.compile(), SizedTermination.CODE_OK);
+        Due.same("three times", runStatus(x), "status 2 calls 46 depth 0 result 12");
+        Due.same("bound", x.getBound(), 46);
+    }
+
+    /** "the same BEGIN, its arguments kept, is tried again by the next run()" */
+    private static void pauseKeepsTheArguments() {
+        SizedTermination x = new SizedTermination(12);
+        Programs.declare(x, "NLN>L", "caseN v0 cons v2 v1 call0 v3 cons v0 v1 succ v2");
+        x.compile();
+        Programs.putNat(x, 0, 5);
+        Programs.putList(x, 1, 9, 8);
+        Programs.putNat(x, 2, 3);
+        x.start(0);
+        for (int i = 1; i <= 5; i++) {
+            Due.same("pause", x.run(1), READY);
+            Due.same("calls", Programs.machine(x), "status 1 calls " + i + " depth " + i);
+            // All that can be called without ending the run stands between.
+            Programs.putList(x, 0, i);
+            Programs.putNat(x, 1, i);
+            Programs.putNat(x, 2, 12);
+            Due.same("refused start", x.start(1), false);
+            Due.same("refused node", x.node(8, 0), false);
+            Due.same("refused function", x.function(0, 0, 0), -1);
+            Due.same("no result", Programs.result(x) + x.resultElem(0), "-1-1");
+        }
+        Due.same("end", x.run(1), SizedTermination.ST_DONE);
+        Due.same("result", Programs.result(x), "[8 1 2 3 4 5 9 8]");
+    }
+
+    /**
+     * "never exhausts the fuel equal to the bound": a run that begins exactly as many
+     * activations as the bound allows is done, and needs no more.
+     */
+    private static void boundReached() {
+        for (int m = 1; m <= 12; m++) {
+            ends(m, "N>N", "caseN v0 zero call0 v1", m + 1, m + 1);
+            long tree = (2L << m) - 1;
+            ends(m, "N>N", "caseN v0 zero caseL cons call0 v1 nil zero call0 v1", tree, tree);
+        }
+        // From the greatest sizes down to the least, one by one; at M = 3 that is the whole depth.
+        String two = "caseN v1 caseN v0 zero call0 v2 G call0 v0 v2";
+        ends(1, "NN>N", two.replace("G", "succ zero"), 15, 4);
+        ends(2, "NN>N", two.replace("G", "succ succ zero"), 511, 9);
+        ends(3, "NN>N", two.replace("G", "succ succ succ zero"), 65535, 16);
+        ends(1, "NNN>N", "caseN v2 caseN v1 caseN v0 zero call0 v3 succ zero succ zero"
+            + " call0 v0 v3 succ zero call0 v0 v1 v3", 3280, 8);
+    }
+
+    /** All slots hold M; the run is done after so many calls, whole or one at a time. */
+    private static void ends(int m, String signature, String body, long bound, long calls) {
+        SizedTermination x = new SizedTermination(m);
+        Programs.declare(x, signature, body);
+        Due.same("accepted '" + body + "'", x.compile(), SizedTermination.CODE_OK);
+        Due.same("bound of '" + body + "'", x.getBound(), bound);
+        for (int slot = 0; slot < 3; slot++) {
+            Programs.putNat(x, slot, m);
+        }
+        Due.same("run of '" + body + "'", Programs.outcome(x, 1),
+            "status 2 calls " + calls + " depth 0 result 0");
+        x.start(1);
+        for (long i = 1; i < calls; i++) {
+            x.run(1);
+        }
+        Due.same("one before the end", x.getStatus(), READY);
+        Due.same("the last", x.run(1), SizedTermination.ST_DONE);
+    }
+
+    /** "(3) begun == k: pause; the status stays ST_READY" */
     private static void pauses() {
         SizedTermination x = Programs.one("N>N", Programs.HALF);
         Programs.declare(x, "NN>N", "call0 call0 v1");
@@ -229,6 +389,7 @@ public final class RunTest {
         Due.same("seven", x.run(7), SizedTermination.ST_DONE);
     }
 
+    /** "k is clamped into 1..MAX_RUN" */
     private static void clampOfK() {
         SizedTermination x = Programs.one("N>N", Programs.HALF);
         x.compile();

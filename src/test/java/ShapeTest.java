@@ -6,12 +6,15 @@ public final class ShapeTest {
     public static void main(String[] args) {
         empty();
         shapes();
+        largestBodies();
         callArity();
+        arityOfNoFunction();
         laterFunctionFaults();
         endsARun();
         Due.end();
     }
 
+    /** "F == 0 gives CODE_EMPTY"; "the fault function (.. -1 for CODE_OK and CODE_EMPTY)" */
     private static void empty() {
         SizedTermination x = new SizedTermination(6);
         Due.same("compile of nothing", x.compile(), SizedTermination.CODE_EMPTY);
@@ -19,6 +22,7 @@ public final class ShapeTest {
         Due.same("start", x.start(3), false);
     }
 
+    /** "if need == 0, fault"; "also a fault if the body is empty or need != 0 at the end" */
     private static void shapes() {
         shape("", SYNTAX);
         shape("zero", OK);
@@ -44,6 +48,25 @@ public final class ShapeTest {
         shape("zero caseN zero zero", SYNTAX);
     }
 
+    /** Bodies that fill the program to its last node. */
+    private static void largestBodies() {
+        shape("caseN ".repeat(64), SYNTAX);
+        shape("caseN ".repeat(21) + "zero ".repeat(43), OK);
+        shape("caseN ".repeat(21) + "zero ".repeat(42), SYNTAX);
+        shape("caseN ".repeat(20) + "zero ".repeat(42), SYNTAX);
+        shape("caseN ".repeat(22) + "zero ".repeat(42), SYNTAX);
+        shape("caseN zero zero ".repeat(21) + "zero", OK);
+        shape("succ ".repeat(63) + "zero", OK);
+        shape("succ ".repeat(64), SYNTAX);
+        shape("succ ".repeat(62) + "zero zero", SYNTAX);
+        shape("zero ".repeat(64), SYNTAX);
+        shape("caseL nil zero " + "caseL nil zero ".repeat(20) + "zero", OK);
+        SizedTermination x = Programs.one("N>L", "cons zero ".repeat(31) + "nil");
+        Due.same("63 nodes", x.compile(), OK);
+        Programs.append(x, "nil");
+        Due.same("64 nodes", x.compile(), SYNTAX);
+    }
+
     private static void shape(String body, int want) {
         SizedTermination x = Programs.one("N>N", body);
         Due.same("'" + body + "'", x.compile(), want);
@@ -61,7 +84,10 @@ public final class ShapeTest {
                 Due.same("fault", x.getFaultFunction(), given == count ? -1 : 1);
             }
         }
-        // A call of no function has no children; of a later one, as many as that one takes.
+    }
+
+    /** "The arity is 0 when g is not in 0..F-1." A later function's is as many as that one takes. */
+    private static void arityOfNoFunction() {
         shape("call-1 zero", SYNTAX);
         shape("call1 zero", SYNTAX);
         shape("call1", SizedTermination.CODE_CALL);
@@ -72,14 +98,29 @@ public final class ShapeTest {
         Due.same("unknown yet", x.compile(), SYNTAX);
         Programs.declare(x, "N>N", "v0");
         Due.same("known now", x.compile(), SizedTermination.CODE_CALL);
-        x = Programs.one("N>N", "call6");
-        Due.same("beyond", x.compile(), SizedTermination.CODE_CALL);
-        x = Programs.one("N>N", "call" + Integer.MIN_VALUE);
-        Due.same("far below", x.compile(), SizedTermination.CODE_CALL);
-        x = Programs.one("N>N", "call" + Integer.MAX_VALUE);
-        Due.same("far above", x.compile(), SizedTermination.CODE_CALL);
+        int[] none = {Integer.MIN_VALUE, -256, -1, 1, 5, 6, 7, 64, 256, Integer.MAX_VALUE};
+        for (int g : none) {
+            shape("call" + g, SizedTermination.CODE_CALL);
+            shape("call" + g + " v0", SYNTAX);
+            shape("succ call" + g, SizedTermination.CODE_CALL);
+        }
+        // With F = 6: 5 is the last function, 6 is none.
+        x = new SizedTermination(6);
+        for (int f = 0; f < 5; f++) {
+            Programs.declare(x, "N>N", f == 0 ? "call5 zero zero zero" : "v0");
+        }
+        Programs.declare(x, "NNN>N", "v0");
+        Due.same("of the last", x.compile(), SizedTermination.CODE_CALL);
+        Due.same("its function", x.getFaultFunction(), 0);
+        x.clearProgram();
+        for (int f = 0; f < 6; f++) {
+            Programs.declare(x, "NNN>N", f == 5 ? "call6" : "v0");
+        }
+        Due.same("of none", x.compile(), SizedTermination.CODE_CALL);
+        Due.same("its function", x.getFaultFunction(), 5);
     }
 
+    /** "each phase looks at functions 0..F-1 in order; the first fault found ends checking" */
     private static void laterFunctionFaults() {
         SizedTermination x = Programs.one("N>N", "v0");
         Programs.declare(x, "N>N", "succ");
@@ -94,8 +135,22 @@ public final class ShapeTest {
         Programs.declare(x, "N>N", "v0");
         Due.same("an empty body in the middle", x.compile(), SYNTAX);
         Due.same("its function", x.getFaultFunction(), 1);
+        x.clearProgram();
+        Programs.declare(x, "N>N", "succ");
+        Programs.declare(x, "N>N", "zero v0");
+        Due.same("one short, then one over", x.compile(), SYNTAX);
+        Due.same("its function", x.getFaultFunction(), 0);
+        for (int faulty = 0; faulty < 6; faulty++) {
+            x.clearProgram();
+            for (int f = 0; f < 6; f++) {
+                Programs.declare(x, "N>N", f < faulty ? "v0" : "");
+            }
+            Due.same("empty from " + faulty, x.compile(), SYNTAX);
+            Due.same("its function", x.getFaultFunction(), faulty);
+        }
     }
 
+    /** "it sets status ST_IDLE, calls 0, depth 0 and no result, ending any run" */
     private static void endsARun() {
         SizedTermination x = Programs.one("N>N", Programs.HALF);
         Programs.putNat(x, 0, 6);

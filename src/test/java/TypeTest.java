@@ -9,6 +9,7 @@ public final class TypeTest {
         caseVariables();
         callTypes();
         laterFunction();
+        namesBeforeTypes();
         Due.end();
     }
 
@@ -102,5 +103,23 @@ public final class TypeTest {
         Programs.declare(x, "N>L", "v0");
         Due.same("first of two", x.compile(), TYPE);
         Due.same("its function", x.getFaultFunction(), 2);
+    }
+
+    /** A fault of an earlier phase in a later node, or in a later function, comes first. */
+    private static void namesBeforeTypes() {
+        types("N>L", "cons nil v9", SizedTermination.CODE_SCOPE);
+        types("N>L", "cons nil call9", SizedTermination.CODE_CALL);
+        types("N>N", "nil nil", SizedTermination.CODE_SYNTAX);
+        SizedTermination x = Programs.one("N>N", "nil");
+        Programs.declare(x, "N>N", "v1");
+        Due.same("a later function's scope", x.compile(), SizedTermination.CODE_SCOPE);
+        Due.same("its function", x.getFaultFunction(), 1);
+        // Types come before descent in the same way.
+        types("N>N", "succ call0 nil", TYPE);
+        types("NL>N", "call0 v0 v0", TYPE);
+        x = Programs.one("N>N", Programs.LOOP);
+        Programs.declare(x, "N>N", "nil");
+        Due.same("a later function's type", x.compile(), TYPE);
+        Due.same("its function", x.getFaultFunction(), 1);
     }
 }
