@@ -36,6 +36,7 @@ public final class DescentTest {
         descent("N>N", Programs.HALF, OK);
     }
 
+    /** "Every node has a size fact, NONE or (j,k)" */
     private static void facts() {
         // Up one and down one is even; down two and up one still goes down.
         descent("N>N", "caseN v0 zero call0 succ v1", DESCENT);
@@ -131,6 +132,7 @@ public final class DescentTest {
             "caseN v0 succ v1 caseN v1 call0 v2 succ zero call0 v2 call0 v0 v3", OK);
     }
 
+    /** "the first self-call .. in prefix order that does not descend" */
     private static void everySelfCall() {
         descent("N>N", "caseN v0 zero call0 call0 v0", DESCENT);
         descent("NN>N", "caseN v0 zero call0 v2 call0 v2 v1", OK);
@@ -140,6 +142,7 @@ public final class DescentTest {
         descent("N>N", "caseN zero zero call0 v0", DESCENT);
     }
 
+    /** "(K_CALL f in the body of f)": a call of an earlier function need not descend. */
     private static void onlySelfCalls() {
         SizedTermination x = Programs.one("N>N", "v0");
         Programs.declare(x, "N>N", "call0 v0");

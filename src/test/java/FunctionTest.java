@@ -25,6 +25,7 @@ public final class FunctionTest {
         Due.same("none declared", x.compile(), SizedTermination.CODE_EMPTY);
     }
 
+    /** "refused, answering -1 with nothing changed" */
     private static void refusalChangesNothing() {
         SizedTermination x = Programs.one("N>N", Programs.HALF);
         x.compile();

@@ -127,6 +127,7 @@ public final class InputTest {
         Due.same("slot 2", Programs.slot(x, "LNL", 2), "[12 12 12 12 12 12 12 12 12 12 12 12]");
     }
 
+    /** "a run already started keeps the arguments it copied" */
     private static void runKeepsItsArguments() {
         SizedTermination x = Programs.one("N>N", Programs.HALF);
         x.compile();

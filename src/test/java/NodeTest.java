@@ -74,6 +74,7 @@ public final class NodeTest {
         Due.same("run", Programs.outcome(x, 1), "status 4 calls 1 depth 1 result -1");
     }
 
+    /** "in the whole program": no body has many of them. */
     private static void limitOverSixBodies() {
         SizedTermination x = new SizedTermination(12);
         int[] sizes = {10, 11, 11, 11, 11, 10};
@@ -94,6 +95,7 @@ public final class NodeTest {
         Due.same("room again", x.node(SizedTermination.K_ZERO, 0), true);
     }
 
+    /** A full program takes a function still, but no node for it. */
     private static void limitOverTheWholeProgram() {
         SizedTermination x = new SizedTermination(12);
         Programs.declare(x, "N>N", "v0");
@@ -115,7 +117,7 @@ public final class NodeTest {
         Due.same("fault", x.getFaultFunction(), 2);
     }
 
-    /** "Any arg is kept as given, whether or not it is meaningful" */
+    /** "Any arg is kept as given"; "The arg of kinds other than K_VAR and K_CALL is ignored." */
     private static void anyArgIsKept() {
         int[] args = {Integer.MIN_VALUE, Integer.MIN_VALUE + 1, -256, -1, 1, 64, 256, 65536, 1 << 30,
             Integer.MAX_VALUE};
@@ -142,6 +144,7 @@ public final class NodeTest {
         }
     }
 
+    /** "Otherwise it answers true and RESETs." */
     private static void resets() {
         SizedTermination x = Programs.one("N>N", "v0");
         Programs.putNat(x, 0, 3);

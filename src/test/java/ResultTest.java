@@ -140,6 +140,7 @@ public final class ResultTest {
         expect(x, -1, null);
     }
 
+    /** "with status ST_DONE": in no other end is there a result. */
     private static void noneAfterABadEnd() {
         SizedTermination x = Programs.one("N>N", Programs.LOOP);
         x.compile();

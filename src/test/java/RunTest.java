@@ -55,6 +55,7 @@ public final class RunTest {
         Due.same("unchanged", Programs.all(x), done);
     }
 
+    /** "VAR: its value. ZERO: 0. NIL: the empty list."; "then only the chosen branch" */
     private static void values() {
         int[] list = {4, 2, 5};
         run("status 2 calls 1 depth 0 result 3", 6, 3, list, "N>N", "v0");
@@ -84,6 +85,7 @@ public final class RunTest {
             "caseL v0 nil cons v1 v2");
     }
 
+    /** "CALL g: the children in order, then a BEGIN of an activation of g" */
     private static void callByValue() {
         SizedTermination x = Programs.one("LL>L", Programs.APPEND);
         Programs.declare(x, "LL>L", "caseL v0 v1 call1 v3 cons v2 v1");
@@ -255,7 +257,7 @@ public final class RunTest {
         Due.same("depth 17 is not", runStatus(x), "status 5 calls 16 depth 16 result -1");
     }
 
-    /** Every two of the three tests true at once, and all three. */
+    /** "(1) calls == fuel .. (2) depth == MAX_DEPTH .. (3) begun == k": any two at once, and all. */
     private static void beginTestsTogether() {
         SizedTermination x = Programs.one("N>N", Programs.LOOP);
         x.compile();
@@ -419,6 +421,7 @@ public final class RunTest {
         Due.same("begun 199", x.getCalls(), 199);
     }
 
+    /** "on any inputs and under any splitting into run() calls" */
     private static void everySplittingGivesTheSame() {
         SizedTermination x = new SizedTermination(5);
         Programs.declare(x, "LL>L", Programs.APPEND);

@@ -70,6 +70,7 @@ public final class StartTest {
         Due.same("MAIN is the last now", x.start(0), false);
     }
 
+    /** "refused, answering false with nothing changed" */
     private static void refusalChangesNothing() {
         SizedTermination x = Programs.one("N>N", Programs.HALF);
         x.compile();
@@ -98,7 +99,7 @@ public final class StartTest {
         Due.same("bound", x.getBound(), 7);
     }
 
-    /** The bound is neither clamped into 1..MAX_FUEL nor cut to the low half of a long. */
+    /** "the fuel becomes the bound": not clamped into 1..MAX_FUEL, nor cut to an int. */
     private static void fuelBeyondTheGreatestArgument() {
         // Three self-calls on n - 1, all of them evaluated: 1 + 3 + .. + 3^12 are begun.
         SizedTermination x = new SizedTermination(12);

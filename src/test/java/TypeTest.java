@@ -19,6 +19,7 @@ public final class TypeTest {
         Due.same("fault of '" + body + "'", x.getFaultFunction(), want == OK ? -1 : 0);
     }
 
+    /** "Expected: for the root, the result type of f" */
     private static void roots() {
         types("N>N", "v0", OK);
         types("N>L", "v0", TYPE);
@@ -37,6 +38,7 @@ public final class TypeTest {
         types("N>N", "cons zero nil", TYPE);
     }
 
+    /** "for the child of SUCC, NAT; for the children of CONS, NAT then LIST; .. of a CASE" */
     private static void children() {
         types("N>N", "succ nil", TYPE);
         types("L>N", "succ v0", TYPE);
@@ -62,6 +64,7 @@ public final class TypeTest {
         types("L>N", "caseL v0 zero caseL v2 v1 caseL v4 v3 v5", OK);
     }
 
+    /** "a CASE_NAT variable NAT; a CASE_LIST head NAT, tail LIST" */
     private static void caseVariables() {
         types("N>N", "caseN v0 zero v1", OK);
         types("N>L", "caseN v0 nil v1", TYPE);
@@ -78,6 +81,7 @@ public final class TypeTest {
         types("LN>L", "caseL v0 caseN v1 nil nil caseN v2 v3 v3", OK);
     }
 
+    /** "for child i of CALL g, the type of parameter i of g"; "CALL g, the result type of g" */
     private static void callTypes() {
         types("NL>N", "caseN v0 zero call0 v2 v1", OK);
         types("NL>N", "caseN v0 zero call0 v1 v1", TYPE);
