@@ -534,12 +534,13 @@ public final class SizedTermination {
         long each = 1;
         for (int g = 0; g < f; g++) {
             int callsToG = countCalls(f, g);
-            each = capped(each + callsToG * totals[g]);
+            long inThem = cappedProduct(totals[g], callsToG);
+            each = cappedSum(each, inThem);
         }
         int selfCalls = countCalls(f, f);
         int states = statesOf(f);
         long activations = powerSum(selfCalls, states);
-        return activations > BOUND_CAP / each ? BOUND_CAP : activations * each;
+        return cappedProduct(activations, each);
     }
 
     private int countCalls(int f, int g) {
@@ -565,14 +566,22 @@ public final class SizedTermination {
         long sum = 0;
         long power = 1;
         for (int i = 0; i < terms; i++) {
-            sum = capped(sum + power);
-            power = capped(power * base);
+            sum = cappedSum(sum, power);
+            power = cappedProduct(power, base);
         }
         return sum;
     }
 
-    private static long capped(long value) {
-        return value > BOUND_CAP ? BOUND_CAP : value;
+    private static long cappedSum(long a, long b) {
+        return a > BOUND_CAP - b ? BOUND_CAP : a + b;
+    }
+
+    // By a division, since the product of two numbers of the cap's size is more than a long holds.
+    private static long cappedProduct(long a, long b) {
+        if (b == 0) {
+            return 0;
+        }
+        return a > BOUND_CAP / b ? BOUND_CAP : a * b;
     }
 
     // ---- inputs ----
