@@ -1,7 +1,10 @@
 import java.util.ArrayList;
 import java.util.List;
 
-/** Promises 5 and 9 to 11: every body of a few nodes, on all inputs, on the class and on the model. */
+/**
+ * Promises 5 and 9 to 11: every body of a few of these nodes, under some headers, on all inputs at
+ * a cap of 1 or 2, on the class and on the model.
+ */
 public final class SmallProgramsTest {
     private static final String[] WORDS = {"v0", "v1", "v2", "v3", "zero", "nil", "succ", "cons",
         "call0", "call1", "caseN", "caseL"};
